@@ -22,12 +22,15 @@ public final class ScheduleLab {
     private static final int BAD_ENDING = 4096, STUCK_ENDING = 8192, ENDINGS = 16384;
 
     // Only a WAIT can take two steps, all else one, so that no run has more.
-    private static final int MOST_STEPS = 2 * ALL_CODE;
-    // More than three times as many as there can be states, so that a search in it stays short.
+    private static final int MOST_STEPS = 2 * ALL_CODE, TRAIL = MOST_STEPS + 1;
+    // One state too many is kept, as the sign that there are MANY.
+    private static final int KEPT = MOST_STATES + 1;
+    // More than three times as many as the states kept, so that a search in them stays short.
     private static final int SLOTS = 4096;
     private static final long SPREAD = 0x9E3779B97F4A7C15L;
     private static final int SPREAD_SHIFT = 52;
-    // Far above the turns that the walk of kinds can need before it ends or has seen too many kinds.
+    // Far above the turns that the walk of kinds can need before it ends or has seen too many: a
+    // search for the worst programs found some 160 thousand.
     private static final int MOST_TURNS = 2000000000;
 
     private final int[] ops = new int[ALL_CODE];
@@ -35,17 +38,17 @@ public final class ScheduleLab {
     private final int[] codeLength = new int[THREADS];
 
     /** The packed states from the first one to the present one, which is at number 'steps'. */
-    private final long[] trail = new long[MOST_STEPS + 1];
+    private final long[] trail = new long[TRAIL];
     private int steps;
 
     /** The state at work: what a step reads and changes. Takers are one more than the thread. */
     private final int[] cell = new int[CELLS];
 
     /** The states that can come, nearest first, each with the step that led there first. */
-    private final long[] found = new long[MOST_STATES + 1];
-    private final int[] cameFrom = new int[MOST_STATES + 1];
-    private final int[] cameBy = new int[MOST_STATES + 1];
-    private final int[] distance = new int[MOST_STATES + 1];
+    private final long[] found = new long[KEPT];
+    private final int[] cameFrom = new int[KEPT];
+    private final int[] cameBy = new int[KEPT];
+    private final int[] distance = new int[KEPT];
     private int foundCount;
     /** One more than the number of the found state that is kept in the slot, 0 for none. */
     private final int[] slots = new int[SLOTS];
@@ -53,9 +56,9 @@ public final class ScheduleLab {
     private final boolean[] isEnding = new boolean[ENDINGS];
 
     /** The walk of kinds: of each state on the way the threads still to be tried, and the asleep. */
-    private final long[] walkState = new long[MOST_STEPS + 1];
-    private final int[] walkLeft = new int[MOST_STEPS + 1];
-    private final int[] walkAsleep = new int[MOST_STEPS + 1];
+    private final long[] walkState = new long[TRAIL];
+    private final int[] walkLeft = new int[TRAIL];
+    private final int[] walkAsleep = new int[TRAIL];
 
     public ScheduleLab() {
         returnToFirst();
@@ -131,9 +134,7 @@ public final class ScheduleLab {
         if (!explore()) {
             return MANY;
         }
-        if (k < 0 || k >= markEndings()) {
-            return REFUSED;
-        }
+        markEndings();
         int lower = 0;
         for (int e = 0; e < ENDINGS; e++) {
             if (isEnding[e]) {
@@ -422,7 +423,7 @@ public final class ScheduleLab {
         return foundCount <= MOST_STATES;
     }
 
-    /** Keeps a state unless it is kept; one state too many is kept too, as the sign of that. */
+    /** Keeps a state unless it is kept already or there are MANY. */
     private void keep(long state, int from, int by, int far) {
         int slot = slotOf(state);
         if (slots[slot] != 0 || foundCount > MOST_STATES) {

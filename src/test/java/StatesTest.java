@@ -10,6 +10,7 @@ public final class StatesTest {
         endingsOfALostUpdate();
         endingsWithAllNumbers();
         endingsStuckAndBad();
+        endingsOfAnotherCode();
         endingsOfManyStates();
         CHECK.end();
     }
@@ -86,6 +87,15 @@ public final class StatesTest {
         endingsAre("both", Programs.lab("4,7 1,0 9,1 7,0 7,0"), 8192 + 4096 + 7);
         endingsAre("some", Programs.lab("3,0 | 0,0 9,1"), 1, 4097);
         endingsAre("waits for ever", Programs.lab("7,0 10,0 3,1 | 11,0"), 8, 8192);
+    }
+
+    /** What was found for a longer code is not to be seen again. */
+    private static void endingsOfAnotherCode() {
+        ScheduleLab lab = Programs.lab("3,0");
+        endingsAre("one INC", lab, 1);
+        lab.clear(0);
+        endingsAre("none", lab, 0);
+        CHECK.due("one state", lab.states(), 1);
     }
 
     private static void endingsOfManyStates() {

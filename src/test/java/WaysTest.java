@@ -10,6 +10,7 @@ public final class WaysTest {
         shorterBeforeLower();
         fourGoals();
         fromThePresent();
+        ofAnotherCode();
         overSkips();
         overWaits();
         tooManyStates();
@@ -92,6 +93,14 @@ public final class WaysTest {
         isNever("BAD for ever", lab, 3);
         Programs.go(lab, 1, 1);
         wayIs("DONE already", lab, 2);
+    }
+
+    /** What was found for a longer code is not to be seen again. */
+    private static void ofAnotherCode() {
+        ScheduleLab lab = Programs.lab("9,1");
+        wayIs("a CHECK", lab, 0, 0);
+        lab.clear(0);
+        isNever("no CHECK", lab, 0);
     }
 
     private static void overSkips() {
