@@ -55,7 +55,7 @@ public final class ScheduleLab {
 
     private final boolean[] isEnding = new boolean[ENDINGS];
 
-    /** The walk of kinds: of each state on the way the threads still to be tried, and the asleep. */
+    /** The walk of kinds: each state on the way, with the threads to be tried, and the asleep. */
     private final long[] walkState = new long[TRAIL];
     private final int[] walkLeft = new int[TRAIL];
     private final int[] walkAsleep = new int[TRAIL];

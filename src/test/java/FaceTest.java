@@ -23,7 +23,7 @@ public final class FaceTest {
         oneClass();
         neverThrows("");
         neverThrows("7,0 10,0 3,1 8,0 0,2 | 7,0 3,0 11,0 8,0 | 10,0 11,1");
-        neverThrows("3,0 0,2 0,2 0,2 2,2 | 3,1 4,1 2,2 3,2 0,0 | 0,3 0,0 2,0 3,0 3,2");
+        neverThrows(Programs.TOO_MANY);
         longRun();
         CHECK.end();
     }

@@ -104,8 +104,7 @@ public final class KindsTest {
     }
 
     private static void manyStatesFewKinds() {
-        String text = "3,0 0,2 0,2 0,2 2,2 | 3,1 4,1 2,2 3,2 0,0 | 0,3 0,0 2,0 3,0 3,2";
-        CHECK.due("MANY states", Programs.lab(text).states(), ScheduleLab.MANY);
-        CHECK.due("few kinds", Programs.lab(text).kinds(), 632);
+        CHECK.due("MANY states", Programs.lab(Programs.TOO_MANY).states(), ScheduleLab.MANY);
+        CHECK.due("few kinds", Programs.lab(Programs.TOO_MANY).kinds(), 632);
     }
 }

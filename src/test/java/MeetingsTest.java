@@ -1,8 +1,6 @@
 /** Promises 13 and 14: race and meet. */
 public final class MeetingsTest {
     private static final Check CHECK = new Check("MeetingsTest");
-    private static final String TOO_MANY =
-        "3,0 0,2 0,2 0,2 2,2 | 3,1 4,1 2,2 3,2 0,0 | 0,3 0,0 2,0 3,0 3,2";
 
     public static void main(String[] args) {
         raceOfTwoOps();
@@ -57,10 +55,10 @@ public final class MeetingsTest {
         int[] others = {-1, 4, Integer.MIN_VALUE, Integer.MAX_VALUE};
         for (int v : others) {
             CHECK.due("race(" + v + ")", Programs.lab("3,0 | 3,0").race(v), ScheduleLab.REFUSED);
-            CHECK.due("MANY race(" + v + ")", Programs.lab(TOO_MANY).race(v), ScheduleLab.REFUSED);
+            CHECK.due("MANY race(" + v + ")", Programs.lab(Programs.TOO_MANY).race(v), ScheduleLab.REFUSED);
         }
         for (int v = 0; v < 4; v++) {
-            CHECK.due("MANY race(" + v + ")", Programs.lab(TOO_MANY).race(v), ScheduleLab.MANY);
+            CHECK.due("MANY race(" + v + ")", Programs.lab(Programs.TOO_MANY).race(v), ScheduleLab.MANY);
         }
     }
 
@@ -102,7 +100,7 @@ public final class MeetingsTest {
 
     private static void meetRefuses() {
         ScheduleLab few = Programs.lab("3,0 3,0 | 3,0");
-        ScheduleLab many = Programs.lab(TOO_MANY);
+        ScheduleLab many = Programs.lab(Programs.TOO_MANY);
         int[] noThreads = {-1, 3, Integer.MIN_VALUE, Integer.MAX_VALUE};
         int[] noPlaces = {-1, 6, Integer.MIN_VALUE, Integer.MAX_VALUE};
         for (ScheduleLab lab : new ScheduleLab[] {few, many}) {

@@ -1,8 +1,6 @@
 /** Promise 16: what is tested first, what sets the present state back, and how numbers begin. */
 public final class OrderTest {
     private static final Check CHECK = new Check("OrderTest");
-    private static final String TOO_MANY =
-        "3,0 0,2 0,2 0,2 2,2 | 3,1 4,1 2,2 3,2 0,0 | 0,3 0,0 2,0 3,0 3,2";
 
     public static void main(String[] args) {
         constants();
@@ -21,7 +19,7 @@ public final class OrderTest {
     }
 
     private static void refusedBeforeMany() {
-        ScheduleLab lab = Programs.lab(TOO_MANY);
+        ScheduleLab lab = Programs.lab(Programs.TOO_MANY);
         CHECK.due("soonest(4)", lab.soonest(4), ScheduleLab.REFUSED);
         CHECK.due("soonest(-1)", lab.soonest(-1), ScheduleLab.REFUSED);
         CHECK.due("race(4)", lab.race(4), ScheduleLab.REFUSED);
@@ -31,7 +29,7 @@ public final class OrderTest {
     }
 
     private static void manyBeforeRefused() {
-        ScheduleLab lab = Programs.lab(TOO_MANY);
+        ScheduleLab lab = Programs.lab(Programs.TOO_MANY);
         CHECK.due("step(0, -1)", lab.step(0, -1), ScheduleLab.MANY);
         CHECK.due("step(2, 99)", lab.step(2, 99), ScheduleLab.MANY);
         CHECK.due("soonest(1) that comes never", lab.soonest(1), ScheduleLab.MANY);

@@ -42,11 +42,10 @@ public final class StatesTest {
 
     private static void statesAtTheLimit() {
         String most = "7,0 3,0 1,0 6,3 3,1 | 2,0 3,0 3,0 1,0 2,3 | 10,0 2,0 5,4 2,0 10,0";
-        String tooMany = "3,0 0,2 0,2 0,2 2,2 | 3,1 4,1 2,2 3,2 0,0 | 0,3 0,0 2,0 3,0 3,2";
         CHECK.due("1200 by the reference", new Reference(Programs.codes(most)).states().size(), 1200);
         CHECK.due("1200 states", Programs.lab(most).states(), 1200);
-        CHECK.due("1201 by the reference", new Reference(Programs.codes(tooMany)).states().size(), 1201);
-        ScheduleLab lab = Programs.lab(tooMany);
+        CHECK.due("1201 by the reference", new Reference(Programs.codes(Programs.TOO_MANY)).states().size(), 1201);
+        ScheduleLab lab = Programs.lab(Programs.TOO_MANY);
         CHECK.due("1201 states", lab.states(), ScheduleLab.MANY);
         Programs.go(lab, 0);
         CHECK.due("fewer after a step", lab.states() > 0, true);
@@ -99,8 +98,7 @@ public final class StatesTest {
     }
 
     private static void endingsOfManyStates() {
-        String tooMany = "3,0 0,2 0,2 0,2 2,2 | 3,1 4,1 2,2 3,2 0,0 | 0,3 0,0 2,0 3,0 3,2";
-        ScheduleLab lab = Programs.lab(tooMany);
+        ScheduleLab lab = Programs.lab(Programs.TOO_MANY);
         CHECK.due("endings()", lab.endings(), ScheduleLab.MANY);
         CHECK.due("ending(0)", lab.ending(0), ScheduleLab.MANY);
     }

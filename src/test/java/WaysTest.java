@@ -117,8 +117,7 @@ public final class WaysTest {
     }
 
     private static void tooManyStates() {
-        String tooMany = "3,0 0,2 0,2 0,2 2,2 | 3,1 4,1 2,2 3,2 0,0 | 0,3 0,0 2,0 3,0 3,2";
-        ScheduleLab lab = Programs.lab(tooMany);
+        ScheduleLab lab = Programs.lab(Programs.TOO_MANY);
         for (int what = 0; what < 4; what++) {
             CHECK.due("soonest(" + what + ")", lab.soonest(what), ScheduleLab.MANY);
             CHECK.due("step(" + what + ", 0)", lab.step(what, 0), ScheduleLab.MANY);
