@@ -29,9 +29,11 @@ public final class ScheduleLab {
     private static final int SLOTS = 4096;
     private static final long SPREAD = 0x9E3779B97F4A7C15L;
     private static final int SPREAD_SHIFT = 52;
-    // Far above the turns that the walk of kinds can need before it ends or has seen too many: a
-    // search for the worst programs found some 160 thousand.
-    private static final int MOST_TURNS = 2000000000;
+    // The walk of kinds never needs as many turns. It comes to no two rows of steps that are alike,
+    // and when it leaves one, the kind of a run that begins so is counted. A kind has no more
+    // than 11 * 11 * 11 such beginnings, for a thread takes 0 to 10 steps; so with 2001 kinds it
+    // comes to less than 2.7 million rows, with two turns for each.
+    private static final int MOST_TURNS = 10000000;
 
     private final int[] ops = new int[ALL_CODE];
     private final int[] args = new int[ALL_CODE];

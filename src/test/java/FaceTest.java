@@ -24,7 +24,6 @@ public final class FaceTest {
         neverThrows("");
         neverThrows("7,0 10,0 3,1 8,0 0,2 | 7,0 3,0 11,0 8,0 | 10,0 11,1");
         neverThrows(Programs.TOO_MANY);
-        longRun();
         CHECK.end();
     }
 
@@ -99,21 +98,5 @@ public final class FaceTest {
             lab.go(a);
             lab.clear(a);
         }
-    }
-
-    /** Runs with WAITs are longer than the codes are; all their steps can be taken back. */
-    private static void longRun() {
-        ScheduleLab lab = Programs.lab("7,0 10,0 10,0 10,0 10,0 | 11,0 11,0 11,0 11,0 11,0");
-        Programs.go(lab, 0);
-        for (int n = 0; n < 4; n++) {
-            CHECK.due("WAIT " + n, lab.go(0), 2 + 3 * n);
-            CHECK.due("NOTIFY " + n, lab.go(1), 3 + 3 * n);
-            CHECK.due("the lock again " + n, lab.go(0), 4 + 3 * n);
-        }
-        CHECK.due("the last", lab.go(1), 14);
-        for (int n = 13; n >= 0; n--) {
-            CHECK.due("back to " + n, lab.back(), n);
-        }
-        CHECK.due("its soonest end", lab.soonest(2), 14);
     }
 }

@@ -1,46 +1,32 @@
-/** Promise 15: kinds. */
+/** Promise 15: kinds, with ordinary inputs and at its limit of 2000. */
 public final class KindsTest {
     private static final Check CHECK = new Check("KindsTest");
 
     public static void main(String[] args) {
-        noRuns();
-        twoOps();
+        oneKind();
         allTouch();
         locksDecide();
         waitsDecide();
         skipsDecide();
         fromThePresent();
-        atTheLimit();
-        manyStatesFewKinds();
+        upTo2000();
+        farAbove2000();
+        manyNoMoreAfterSteps();
+        fewKindsOfManyStates();
+        manyKindsOfFewStates();
         CHECK.end();
     }
 
-    private static void noRuns() {
+    /** The run of no steps is one too. */
+    private static void oneKind() {
         CHECK.due("no code", new ScheduleLab().kinds(), 1);
         CHECK.due("one thread", Programs.lab("3,0 3,0 3,0").kinds(), 1);
+        ScheduleLab done = Programs.lab("3,0 | 3,0");
+        Programs.go(done, 1, 0);
+        CHECK.due("done already", done.kinds(), 1);
         ScheduleLab stuck = Programs.lab("7,0 7,0 3,0");
         Programs.go(stuck, 0);
         CHECK.due("stuck already", stuck.kinds(), 1);
-    }
-
-    /** Two steps make two kinds if and only if they touch. */
-    private static void twoOps() {
-        for (int op = 0; op < 12; op++) {
-            for (int other = 0; other < 12; other++) {
-                boolean variable = op <= 3 && other <= 3 && op + other > 0;
-                boolean lock = isOfLock(op) && isOfLock(other);
-                int want = variable || lock ? 2 : 1;
-                String call = "kinds() of " + op + " and " + other;
-                CHECK.due(call, Programs.lab(op + ",1 | | " + other + ",1").kinds(), want);
-                int away = op == Programs.SKIP ? 2 : 0;
-                ScheduleLab apart = Programs.lab(op + "," + away + " | " + other + ",1");
-                CHECK.due(call + " of others", apart.kinds(), 1);
-            }
-        }
-    }
-
-    private static boolean isOfLock(int op) {
-        return op == 7 || op == 8 || op == 10 || op == 11;
     }
 
     private static void allTouch() {
@@ -90,21 +76,44 @@ public final class KindsTest {
         CHECK.due("after back", lab.kinds(), 3);
     }
 
-    private static void atTheLimit() {
-        String most = "8,1 1,3 0,0 8,0 | 2,3 7,1 7,0 1,0 8,0 | 11,1 11,1 2,3 8,0 10,0";
-        String tooMany = "10,0 10,0 10,1 11,0 11,0 | 10,1 10,1 7,0 11,0 | 9,5 10,0 5,0 11,1 10,0";
-        CHECK.due("2000 by the reference", new Reference(Programs.codes(most)).kinds(), 2000);
-        CHECK.due("2000 kinds", Programs.lab(most).kinds(), 2000);
-        CHECK.due("2001 by the reference", new Reference(Programs.codes(tooMany)).kinds(), 2001);
-        CHECK.due("2001 kinds", Programs.lab(tooMany).kinds(), ScheduleLab.MANY);
-        CHECK.due("2520 kinds", Programs.lab("3,0 3,0 3,0 3,0 3,0 | 3,0 3,0 3,0 | 3,0 3,0").kinds(),
-            ScheduleLab.MANY);
-        String five = "3,0 3,0 3,0 3,0 3,0";
-        CHECK.due("the most", Programs.lab(five + "|" + five + "|" + five).kinds(), ScheduleLab.MANY);
+    private static void upTo2000() {
+        CHECK.due("2000 by the reference", new Reference(Programs.codes(Programs.MOST_KINDS)).kinds(), 2000);
+        CHECK.due("2001 by the reference", new Reference(Programs.codes(Programs.TOO_MANY_KINDS)).kinds(), 2001);
+        ScheduleLab lab = Programs.lab(Programs.MOST_KINDS);
+        CHECK.due("2000 kinds", lab.kinds(), 2000);
+        CHECK.due("one kind more", lab.change(0, 3, Programs.LOAD, 0), true);
+        CHECK.due("2001 kinds", lab.kinds(), ScheduleLab.MANY);
+        CHECK.due("one kind less", lab.change(0, 3, Programs.INC, 1), true);
+        CHECK.due("2000 kinds again", lab.kinds(), 2000);
     }
 
-    private static void manyStatesFewKinds() {
-        CHECK.due("MANY states", Programs.lab(Programs.TOO_MANY).states(), ScheduleLab.MANY);
-        CHECK.due("few kinds", Programs.lab(Programs.TOO_MANY).kinds(), 632);
+    private static void farAbove2000() {
+        String five = "3,0 3,0 3,0 3,0 3,0";
+        CHECK.due("2520 kinds", Programs.lab(five + " | 3,0 3,0 3,0 | 3,0 3,0").kinds(), ScheduleLab.MANY);
+        ScheduleLab most = Programs.lab(five + "|" + five + "|" + five);
+        CHECK.due("756756 kinds", most.kinds(), ScheduleLab.MANY);
+    }
+
+    /** The present state is the one that counts, not the first one. */
+    private static void manyNoMoreAfterSteps() {
+        ScheduleLab lab = Programs.lab("3,0 3,0 3,0 3,0 3,0 | 3,0 3,0 3,0 | 3,0 3,0");
+        CHECK.due("2520 kinds", lab.kinds(), ScheduleLab.MANY);
+        Programs.go(lab, 0);
+        CHECK.due("1260 kinds", lab.kinds(), 1260);
+        lab.back();
+        CHECK.due("2520 kinds again", lab.kinds(), ScheduleLab.MANY);
+    }
+
+    /** MANY is told of kinds by their own number, not by that of the states. */
+    private static void fewKindsOfManyStates() {
+        CHECK.due("1201 states", Programs.lab(Programs.TOO_MANY).kinds(), 129);
+        String kinds2000 = "5,1 10,1 0,0 3,0 7,0 | 2,0 10,0 10,0 10,1 3,0 | 3,0 10,0 3,0 0,0 7,0";
+        CHECK.due("1270 states", Programs.lab(kinds2000).states(), ScheduleLab.MANY);
+        CHECK.due("1270 states, 2000 kinds", Programs.lab(kinds2000).kinds(), 2000);
+    }
+
+    private static void manyKindsOfFewStates() {
+        CHECK.due("256 states", Programs.lab(Programs.TOO_MANY_KINDS).states(), 256);
+        CHECK.due("2001 kinds", Programs.lab(Programs.TOO_MANY_KINDS).kinds(), ScheduleLab.MANY);
     }
 }

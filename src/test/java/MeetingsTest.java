@@ -1,27 +1,27 @@
-/** Promises 13 and 14: race and meet. */
+/** Promises 13 and 14 with ordinary inputs: race and meet. */
 public final class MeetingsTest {
     private static final Check CHECK = new Check("MeetingsTest");
 
     public static void main(String[] args) {
-        raceOfTwoOps();
+        raceOfTwoInstructions();
         raceOfTwoThreads();
         raceFromThePresent();
-        raceRefuses();
         meetCounts();
-        meetBehindTheCode();
         meetOfOneState();
-        meetRefuses();
         CHECK.end();
     }
 
-    private static void raceOfTwoOps() {
-        for (int op = 0; op < 12; op++) {
-            for (int other = 0; other < 12; other++) {
-                boolean touches = op <= 3 && other <= 3 && (op != 0 || other != 0);
-                ScheduleLab lab = Programs.lab(op + ",1 | " + other + ",1");
-                String call = "race(1) of " + op + " and " + other;
-                CHECK.due(call, lab.race(1), touches ? 1 : 0);
-                CHECK.due("another " + call, lab.race(0), 0);
+    /** Only instructions of variable v count that touch, not those of lock v. */
+    private static void raceOfTwoInstructions() {
+        for (String one : Programs.instructions()) {
+            for (String other : Programs.instructions()) {
+                int[][][] codes = Programs.codes(one + " | " + other);
+                boolean touch = Reference.touch(codes[0][0], codes[1][0]) && codes[0][0][0] <= Programs.INC;
+                ScheduleLab lab = Programs.lab(one + " | " + other);
+                for (int v = 0; v < 4; v++) {
+                    String call = "race(" + v + ") of " + one + " and " + other;
+                    CHECK.due(call, lab.race(v), touch && codes[0][0][1] == v ? 1 : 0);
+                }
             }
         }
     }
@@ -51,17 +51,6 @@ public final class MeetingsTest {
         CHECK.due("passed over", never.race(3), 0);
     }
 
-    private static void raceRefuses() {
-        int[] others = {-1, 4, Integer.MIN_VALUE, Integer.MAX_VALUE};
-        for (int v : others) {
-            CHECK.due("race(" + v + ")", Programs.lab("3,0 | 3,0").race(v), ScheduleLab.REFUSED);
-            CHECK.due("MANY race(" + v + ")", Programs.lab(Programs.TOO_MANY).race(v), ScheduleLab.REFUSED);
-        }
-        for (int v = 0; v < 4; v++) {
-            CHECK.due("MANY race(" + v + ")", Programs.lab(Programs.TOO_MANY).race(v), ScheduleLab.MANY);
-        }
-    }
-
     private static void meetCounts() {
         ScheduleLab lab = Programs.lab("4,0 4,0 | 4,0 4,0 4,0 | 4,0 4,0 4,0 4,0");
         CHECK.due("0 at 1, 1 at 2", lab.meet(0, 1, 1, 2), 5);
@@ -80,43 +69,9 @@ public final class MeetingsTest {
         CHECK.due("the same and notified", waits.meet(0, 1, 1, 5), 3);
     }
 
-    private static void meetBehindTheCode() {
-        ScheduleLab lab = Programs.lab("4,0 4,0 | 4,0 4,0 4,0 4,0 4,0");
-        CHECK.due("both behind", lab.meet(0, 5, 1, 5), 1);
-        CHECK.due("no code is behind", lab.meet(1, 0, 2, 5), 3);
-        for (int i = 2; i < 5; i++) {
-            CHECK.due("no instruction " + i, lab.meet(0, i, 1, 0), 0);
-            CHECK.due("no instruction " + i + ", turned", lab.meet(1, 0, 0, i), 0);
-        }
-        CHECK.due("new object", new ScheduleLab().meet(2, 5, 1, 5), 1);
-        CHECK.due("new object at 0", new ScheduleLab().meet(2, 0, 1, 5), 0);
-    }
-
     private static void meetOfOneState() {
         ScheduleLab lab = Programs.lab("3,0 | 0,0");
         CHECK.due("two values loaded", lab.meet(0, 5, 1, 5), 2);
         CHECK.due("not yet loaded", lab.meet(0, 5, 1, 0), 1);
-    }
-
-    private static void meetRefuses() {
-        ScheduleLab few = Programs.lab("3,0 3,0 | 3,0");
-        ScheduleLab many = Programs.lab(Programs.TOO_MANY);
-        int[] noThreads = {-1, 3, Integer.MIN_VALUE, Integer.MAX_VALUE};
-        int[] noPlaces = {-1, 6, Integer.MIN_VALUE, Integer.MAX_VALUE};
-        for (ScheduleLab lab : new ScheduleLab[] {few, many}) {
-            for (int t : noThreads) {
-                CHECK.due("t is " + t, lab.meet(t, 0, 0, 0), ScheduleLab.REFUSED);
-                CHECK.due("u is " + t, lab.meet(0, 0, t, 0), ScheduleLab.REFUSED);
-            }
-            for (int i : noPlaces) {
-                CHECK.due("i is " + i, lab.meet(0, i, 1, 0), ScheduleLab.REFUSED);
-                CHECK.due("j is " + i, lab.meet(0, 0, 1, i), ScheduleLab.REFUSED);
-            }
-            for (int t = 0; t < 3; t++) {
-                CHECK.due("both are " + t, lab.meet(t, 0, t, 1), ScheduleLab.REFUSED);
-            }
-        }
-        CHECK.due("MANY", many.meet(0, 0, 1, 0), ScheduleLab.MANY);
-        CHECK.due("MANY behind the code", many.meet(0, 5, 2, 5), ScheduleLab.MANY);
     }
 }

@@ -13,8 +13,6 @@ import java.util.TreeSet;
  * down, ways are chosen from among the rows, and kinds by exchanging neighbouring steps.
  */
 final class Reference {
-    private static final int MOST_ROWS = 400000;
-
     private final int[][][] code;
     private final List<Integer> taken = new ArrayList<>();
 
@@ -159,22 +157,20 @@ final class Reference {
         };
     }
 
-    /** All rows from the present state on, whole runs or their beginnings. */
-    private void rows(int[] state, String row, List<String> runs, String[] ways) {
+    /** All rows from the present state on, whole runs or their beginnings, till there are enough. */
+    private void rows(int[] state, String row, List<String> runs, String[] ways, int enough) {
         for (int what = 0; what < 4; what++) {
             if (sought(state, what) && isBetter(row, ways[what])) {
                 ways[what] = row;
             }
         }
-        boolean over = true;
-        for (int t = 0; t < 3 && runs.size() <= MOST_ROWS; t++) {
-            if (ready(state, t)) {
-                over = false;
-                rows(next(state, t), row + t, runs, ways);
-            }
-        }
-        if (over) {
+        if (readyThreads(state) == 0) {
             runs.add(row);
+        }
+        for (int t = 0; t < 3 && runs.size() < enough; t++) {
+            if (ready(state, t)) {
+                rows(next(state, t), row + t, runs, ways, enough);
+            }
         }
     }
 
@@ -188,20 +184,19 @@ final class Reference {
     /** The way to each of the four goals, or none. */
     String[] ways() {
         String[] ways = new String[4];
-        rows(present(), "", new ArrayList<>(), ways);
+        rows(present(), "", new ArrayList<>(), ways, Integer.MAX_VALUE);
         return ways;
     }
 
-    /** How many runs there are, at most some number that the answer tells then. */
-    int runs() {
+    boolean hasMoreRunsThan(int most) {
         List<String> runs = new ArrayList<>();
-        rows(present(), "", runs, new String[4]);
-        return runs.size();
+        rows(present(), "", runs, new String[4], most + 1);
+        return runs.size() > most;
     }
 
     int kinds() {
         List<String> runs = new ArrayList<>();
-        rows(present(), "", runs, new String[4]);
+        rows(present(), "", runs, new String[4], Integer.MAX_VALUE);
         Set<String> left = new HashSet<>(runs);
         int kinds = 0;
         for (String run : runs) {

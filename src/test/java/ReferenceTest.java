@@ -5,6 +5,7 @@ public final class ReferenceTest {
     private static final Check CHECK = new Check("ReferenceTest");
     private static final int PROGRAMS = 1500;
     private static final int MOST_RUNS = 3000;
+    private static final int STEPS = 8;
     private static final int[] CHOICES = {4, 4, 4, 4, 8, 8, 3, 2, 2, 8, 2, 2};
     private static final String[] POOLS = {
         "0 1 2 3 4 5 6 7 8 9 10 11", "7 8 10 11 3", "7 10 11 8", "0 1 3 6 9 5", "0 1 2 3",
@@ -47,7 +48,7 @@ public final class ReferenceTest {
         ScheduleLab lab = Programs.lab(text);
         Reference reference = new Reference(Programs.codes(text));
         compareAll(text, lab, reference);
-        for (int k = 0; k < 12; k++) {
+        for (int k = 0; k < STEPS; k++) {
             int thread = pick(5) - 1;
             if (thread == 3) {
                 CHECK.due(text + ": back()", lab.back(), reference.back());
@@ -76,7 +77,7 @@ public final class ReferenceTest {
             compareEndings(text, lab, reference);
             compareMeetings(text, lab, reference);
         }
-        if (reference.runs() <= MOST_RUNS) {
+        if (!reference.hasMoreRunsThan(MOST_RUNS)) {
             int kinds = reference.kinds();
             CHECK.due(text + ": kinds()", lab.kinds(), kinds > 2000 ? ScheduleLab.MANY : kinds);
             compareWays(text, lab, reference, many);
@@ -115,11 +116,12 @@ public final class ReferenceTest {
             boolean known = !many && ways[what] != null;
             int length = known ? ways[what].length() : none;
             CHECK.due(text + ": soonest(" + what + ")", lab.soonest(what), length);
-            for (int k = 0; k <= 30; k++) {
-                int past = known ? ScheduleLab.REFUSED : none;
-                int want = known && k < length ? ways[what].charAt(k) - '0' : past;
+            for (int k = 0; k < length; k++) {
+                int want = ways[what].charAt(k) - '0';
                 CHECK.due(text + ": step(" + what + ", " + k + ")", lab.step(what, k), want);
             }
+            int past = known ? ScheduleLab.REFUSED : none;
+            CHECK.due(text + ": step(" + what + ") past it", lab.step(what, length), past);
         }
     }
 }
