@@ -92,6 +92,10 @@ public final class KindsTest {
         CHECK.due("2520 kinds", Programs.lab(five + " | 3,0 3,0 3,0 | 3,0 3,0").kinds(), ScheduleLab.MANY);
         ScheduleLab most = Programs.lab(five + "|" + five + "|" + five);
         CHECK.due("756756 kinds", most.kinds(), ScheduleLab.MANY);
+        most.clear(2);
+        CHECK.due("nothing is left of them", most.kinds(), 252);
+        most.clear(1);
+        CHECK.due("nor of these", most.kinds(), 1);
     }
 
     /** The present state is the one that counts, not the first one. */

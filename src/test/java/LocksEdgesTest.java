@@ -120,14 +120,14 @@ public final class LocksEdgesTest {
         for (int t = 0; t < 3; t++) {
             for (int a = 0; a < 2; a++) {
                 int u = (t + 1) % 3;
-                ScheduleLab lab = Programs.lab(Programs.only(t, "7," + a + " 10," + a + " 3,0"));
+                ScheduleLab lab = Programs.lab(Programs.only(t, "4,7 7," + a + " 10," + a + " 3,0"));
                 lab.add(u, Programs.NOTIFY, a);
-                Programs.go(lab, t, t);
-                waitIs("waits", lab, t, a, 1, -1, 1);
+                Programs.go(lab, t, t, t);
+                waitIs("waits", lab, t, a, 1, -1, 2);
                 Programs.go(lab, u);
-                waitIs("notified", lab, t, a, 2, -1, 1);
-                CHECK.due("the further step", lab.go(t), 4);
-                waitIs("goes on", lab, t, a, 0, t, 2);
+                waitIs("notified", lab, t, a, 2, -1, 2);
+                CHECK.due("the further step", lab.go(t), 5);
+                waitIs("goes on", lab, t, a, 0, t, 3);
             }
         }
     }

@@ -21,6 +21,7 @@ public final class SearchEdgesTest {
         stepOfNothing();
         stepOfNone();
         raceOfNoVariable();
+        raceNoMore();
         raceUpTo1200States();
         meetOfNoThread();
         meetOfOneThread();
@@ -218,6 +219,15 @@ public final class SearchEdgesTest {
         for (int v = 0; v < 4; v++) {
             CHECK.due("new race(" + v + ")", new ScheduleLab().race(v), 0);
         }
+    }
+
+    /** A state that came on the way can't come again. */
+    private static void raceNoMore() {
+        ScheduleLab lab = Programs.lab("4,0 3,0 | 3,0");
+        CHECK.due("race(0) at first", lab.race(0), 1);
+        Programs.go(lab, 0, 0, 1);
+        CHECK.due("race(0) at the end", lab.race(0), 0);
+        CHECK.due("race(0) of one thread", Programs.lab("| 3,0 3,0").race(0), 0);
     }
 
     private static void raceUpTo1200States() {

@@ -3,6 +3,9 @@
  * only asked, and so may have left nothing behind.
  */
 final class Twins {
+    /** More than the codes can have. */
+    private static final int MOST_STEPS = 31;
+
     private final Check check;
     private final ScheduleLab lab;
     private final ScheduleLab twin;
@@ -46,11 +49,8 @@ final class Twins {
     }
 
     private void goBackTheSame(String when) {
-        int left = twin.back();
-        check.due(when + ": back()", lab.back(), left);
-        while (left > 0) {
-            left = twin.back();
-            check.due(when + ": back()", lab.back(), left);
+        for (int n = 0; n < MOST_STEPS; n++) {
+            check.due(when + ": back()", lab.back(), twin.back());
         }
     }
 
